@@ -135,6 +135,8 @@ public final class FindingTest {
         Check.due("demand(4, 4)", x.demand(4, 4), BAD);
         Check.due("demand(2, 1)", x.demand(2, 1), BAD);
         Check.due("demand(0, 4)", x.demand(0, 4), BAD);
+        x.adjust(0, 20);
+        Check.due("demand(0, 0) of another quantizer", x.demand(0, 0), 3116);
         x.append(1, 1);
         Check.due("without a plan", x.demand(0, 3), STATE);
         Check.due("bad without a plan", x.demand(0, 5), BAD);

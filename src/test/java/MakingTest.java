@@ -12,9 +12,12 @@ public final class MakingTest {
         promise23SmoothEdges();
         promise24Repair();
         promise24RepairChoice();
+        promise24RepairInCodingOrder();
+        promise24RepairOfAll();
         promise24RepairErrors();
         promise25Relax();
         promise25RelaxChoice();
+        promise25RelaxInCodingOrder();
         promise25GreatGain();
         promise25RelaxEnds();
         promise26Adjust();
@@ -104,6 +107,9 @@ public final class MakingTest {
         // 20 - 25000 * 20 / 50000 + 2 is 12, 1540 bits, and full again
         Check.due("control(20, 20)", wide(y).control(20, 20), 0);
         Check.due("in coding order", Check.quantizers(y), 7, 12, 12, 13);
+        y.addZone(1, 1, -10);
+        Check.due("control(20, 20) with a zone", y.control(20, 20), 0);
+        Check.due("the zone is that of frame 1", Check.quantizers(y), 7, 2, 12, 13);
     }
 
     private static void promise22Distribute() {
@@ -146,6 +152,7 @@ public final class MakingTest {
         one.distribute(40);
         Check.due("settled behind the greatest", one.planned(0, 0), 46);
         Check.due("distribute(39)", one.distribute(39), STATE);
+        Check.due("distribute(0)", one.distribute(0), STATE);
         Check.due("distribute(-1)", one.distribute(-1), BAD);
         Check.due("distribute(10000001)", one.distribute(10000001), BAD);
         Check.due("the plan stays", one.planned(0, 0), 46);
@@ -275,6 +282,58 @@ public final class MakingTest {
         Check.due("the least place", Check.quantizers(y), 17, 16, 16, 16);
     }
 
+    /** Works 1600, 150, 250 and 600 in the order 0, 3, 1, 2; with 20 they take 3116, 328, 520 and 1193 bits. */
+    private static RatePlanner four() {
+        RatePlanner x = wide(Check.clip(400, 100, 200, 50, 300, 100, 400, 100));
+        Check.due("order", Check.order(x), 0, 3, 1, 2);
+        x.setRate(0);
+        x.constant(20);
+        adjust(x, 20, 20, 20, 20);
+        Check.due("bits", x.total(0), 3116 + 328 + 520 + 1193);
+        return x;
+    }
+
+    private static void promise24RepairInCodingOrder() {
+        RatePlanner x = four();
+        x.setRange(0, 45);
+        adjust(x, 45, 20, 20, 20);
+        // 2259 bits; to 21: frame 3 -82 bits, cost 10536; frame 1 -21, 20571; frame 2 -34, 12705
+        x.setBuffer(2258, 100);
+        Check.due("repair() of 2259 bits for 2258", x.repair(), 1);
+        Check.due("frame 3", Check.quantizers(x), 45, 20, 20, 21);
+        // then frame 3 to 22: -134 bits, cost 14328
+        x.setBuffer(2176, 100);
+        Check.due("repair() of 2177 bits for 2176", x.repair(), 1);
+        Check.due("frame 2 behind it", Check.quantizers(x), 45, 20, 21, 21);
+        // then frame 2 to 22: -56 bits, cost 17142
+        adjust(x, 45, 20, 20, 20);
+        x.setBuffer(2142, 100);
+        Check.due("repair() of 2259 bits for 2142", x.repair(), 3);
+        Check.due("frames 3, 2 and 3", Check.quantizers(x), 45, 20, 21, 22);
+        adjust(x, 45, 20, 20, 20);
+        x.setRange(0, 21);
+        x.setBuffer(2122, 100);
+        Check.due("repair() up to the greatest", x.repair(), 3);
+        Check.due("all at the greatest", Check.quantizers(x), 45, 21, 21, 21);
+        adjust(x, 45, 20, 20, 20);
+        x.setBuffer(2121, 100);
+        Check.due("one bit is missing", x.repair(), STATE);
+        Check.due("the plan stays", Check.quantizers(x), 45, 20, 20, 20);
+    }
+
+    private static void promise24RepairOfAll() {
+        RatePlanner x = wide(Check.frames(60, 4000, 0));
+        x.setInterval(1);
+        x.setRate(0);
+        x.setBuffer(60 * 932, 100);
+        x.constant(3);
+        Check.due("all at 0", x.total(5), 0);
+        Check.due("repair()", x.repair(), 60 * 51);
+        Check.due("all at 51", x.total(5), 60 * 51);
+        x.setBuffer(60 * 932 - 1, 100);
+        Check.due("repair() of one bit too much", x.repair(), STATE);
+    }
+
     private static void promise24RepairErrors() {
         RatePlanner x = pair();
         Check.due("without a plan", x.repair(), STATE);
@@ -360,6 +419,32 @@ public final class MakingTest {
         int bits = equals.planned(0, 1) + equals.planned(3, 1) + equals.bitsAt(1, 19) + equals.bitsAt(2, 20);
         Check.due("relax to one more", equals.relax(bits), 1);
         Check.due("the least place", Check.quantizers(equals), 10, 19, 20, 10);
+    }
+
+    private static void promise25RelaxInCodingOrder() {
+        RatePlanner x = four();
+        x.setBuffer(1000000, 100);
+        // to 19: frame 0 +560 bits, gain 4114; frame 3 +210, 7314; frame 1 +52, 14769; frame 2 +88, 8727;
+        // frame 1 to 18 then +35, 9600, and to 17 +41, 7414; frame 2 to 18 +57, 5894
+        Check.due("relax to 140 more", x.relax(5157 + 140), 3);
+        Check.due("frame 1 thrice", Check.quantizers(x), 20, 17, 20, 20);
+        adjust(x, 20, 20, 20, 20);
+        Check.due("relax to 175 more", x.relax(5157 + 175), 3);
+        Check.due("frames 1, 1, 2", Check.quantizers(x), 20, 18, 19, 20);
+        adjust(x, 20, 20, 20, 20);
+        Check.due("relax to 426 more", x.relax(5157 + 426), 5);
+        Check.due("frames 1, 1, 2, 1, 3", Check.quantizers(x), 20, 17, 19, 19);
+        adjust(x, 20, 20, 20, 20);
+        x.setBuffer(5157, 100);
+        Check.due("no bit is left in the buffer", x.relax(10000000), 0);
+        x.setBuffer(5157 + 52, 100);
+        Check.due("52 bits are left in the buffer", x.relax(10000000), 1);
+        Check.due("frame 1", Check.quantizers(x), 20, 19, 20, 20);
+        // before the call one frame underflows, and no other one may: frame 2 comes last, and lacks a bit
+        adjust(x, 20, 20, 20, 20);
+        x.setBuffer(5156, 100);
+        Check.due("the last underflows already", x.relax(5157 + 52), 1);
+        Check.due("so that frame 1 can take more", Check.quantizers(x), 20, 19, 20, 20);
     }
 
     /** 59 frames whose bits don't increase from 51 to 38, and one that gains 2654208000 from 51 to 50. */

@@ -70,6 +70,15 @@ public final class PlannedTest {
         Check.due("frame 3", planned(x, 3), 20, 1193, 5408, 1816, 623, 0, 0);
         Check.due("frame 1", planned(x, 1), 22, 508, 4096, 923, 415, 0, 0);
         Check.due("frame 2", planned(x, 2), 22, 508, 4096, 715, 207, 0, 0);
+        x.setBuffer(3000, 100);
+        x.setRate(1100);
+        Check.due("frame 0 lacks", planned(x, 0), 17, 4484, 3888, 3000, 0, 1484, 0);
+        Check.due("frame 3 lacks", planned(x, 3), 20, 1193, 5408, 1100, 0, 93, 0);
+        Check.due("frame 1 does not", planned(x, 1), 22, 508, 4096, 1100, 592, 0, 0);
+        x.setRate(2900);
+        Check.due("frame 3 without a surplus", planned(x, 3), 20, 1193, 5408, 2900, 1707, 0, 0);
+        Check.due("frame 1 behind a surplus", planned(x, 1), 22, 508, 4096, 3000, 2492, 0, 1607);
+        Check.due("frame 2 behind a surplus", planned(x, 2), 22, 508, 4096, 3000, 2492, 0, 2392);
     }
 
     private static void promise28Total() {
