@@ -923,7 +923,6 @@ public final class RatePlanner {
         int weightOf(int frame) {
             return at(settings.weights, at(layout.sceneNumbers, frame));
         }
-
     }
 
     /** How frames pass the buffer; its rows are by place, and hold until the next passage. */

@@ -1,4 +1,3 @@
-import java.lang.reflect.InvocationTargetException;
 import java.lang.reflect.Method;
 import java.util.Arrays;
 import java.util.Comparator;
@@ -8,7 +7,9 @@ import java.util.Random;
 
 /** Runs of calls, drawn with a fixed seed, on RatePlanner and PlainPlanner: all answers must be the same. */
 public final class AgainstPlainTest {
-    private static final int RUNS = 400, CALLS = 500;
+    /** An object is promised to answer so many calls, and the last of them as well as the first. */
+    private static final int MOST_CALLS = 512;
+    private static final int RUNS = 500;
     private static final int[] EXTREMES = {Integer.MIN_VALUE, Integer.MIN_VALUE + 1, -1, 0, 1, 1 << 30, Integer.MAX_VALUE};
 
     /** The ranges of the arguments, least and greatest in turn. */
@@ -77,6 +78,7 @@ public final class AgainstPlainTest {
     private final PlainPlanner plain = new PlainPlanner();
     private final StringBuilder told = new StringBuilder();
     private int frames = 0;
+    private int calls = 0;
     private int scale;
     private static final Map<String, int[]> ANSWERS = new HashMap<>();
 
@@ -107,7 +109,7 @@ public final class AgainstPlainTest {
             .filter(method -> RANGES.containsKey(method.getName()))
             .sorted(Comparator.comparing(Method::getName)).toArray(Method[]::new);
         boolean same = methods.length == RANGES.size();
-        for (int turn = 0; turn < CALLS && same; turn++) {
+        for (int turn = 0; calls < MOST_CALLS && same; turn++) {
             same = turn % 40 == 0 || random.nextInt(60) == 0 ? draw(seed, "clip") : draw(seed, drawName(methods));
             if (same && turn % 10 == 9) {
                 same = call(seed, "digest");
@@ -218,25 +220,17 @@ public final class AgainstPlainTest {
     }
 
     private boolean call(int seed, String name, int... arguments) {
-        Object[] boxed = Arrays.stream(arguments).boxed().toArray();
-        long got = ask(planner, name, boxed);
-        long due = ask(plain, name, boxed);
-        told.append(name).append(Arrays.toString(arguments)).append(" -> ").append(due).append('\n');
-        frames = (int) ask(plain, "count", 0);
-        ANSWERS.computeIfAbsent(name, key -> new int[3])[got > 0 ? 0 : got == 0 ? 1 : 2]++;
-        Check.due("run " + seed + ": " + name + Arrays.toString(arguments), got, due);
-        return got == due;
-    }
-
-    private static long ask(Object object, String name, Object... arguments) {
-        Class<?>[] types = new Class<?>[arguments.length];
-        Arrays.fill(types, int.class);
-        try {
-            return ((Number) object.getClass().getMethod(name, types).invoke(object, arguments)).longValue();
-        } catch (InvocationTargetException thrown) {
-            throw new IllegalStateException(name + Arrays.toString(arguments) + " threw", thrown.getCause());
-        } catch (ReflectiveOperationException missing) {
-            throw new IllegalStateException(name, missing);
+        if (calls == MOST_CALLS) {
+            return true;
         }
+        calls++;
+        Call call = new Call(name, arguments);
+        long got = call.on(planner);
+        long due = call.on(plain);
+        told.append(call).append(" -> ").append(due).append('\n');
+        frames = plain.count(0);
+        ANSWERS.computeIfAbsent(name, key -> new int[3])[got > 0 ? 0 : got == 0 ? 1 : 2]++;
+        Check.due("run " + seed + ": " + call, got, due);
+        return got == due;
     }
 }

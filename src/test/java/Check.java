@@ -4,31 +4,33 @@ import java.util.Arrays;
 final class Check {
     private static int asked = 0;
     private static int wrong = 0;
+    private static String sentence = "";
 
     private Check() {
     }
 
+    /** The document's sentence, or the part of it, that the next checks hold to. */
+    static void says(String words) {
+        sentence = words;
+    }
+
     static void due(String call, long got, long due) {
-        asked++;
-        if (got != due) {
-            wrong++;
-            System.out.println(call + " answered " + got + ", due is " + due);
-        }
+        tell(got == due, call + " answered " + got + ", due is " + due);
     }
 
     static void due(String what, long[] got, long... due) {
-        asked++;
-        if (!Arrays.equals(got, due)) {
-            wrong++;
-            System.out.println(what + " is " + Arrays.toString(got) + ", due is " + Arrays.toString(due));
-        }
+        tell(Arrays.equals(got, due), what + " is " + Arrays.toString(got) + ", due is " + Arrays.toString(due));
     }
 
     static void holds(String what, boolean held) {
+        tell(held, "does not hold: " + what);
+    }
+
+    private static void tell(boolean right, String complaint) {
         asked++;
-        if (!held) {
+        if (!right) {
             wrong++;
-            System.out.println("does not hold: " + what);
+            System.out.println(complaint + (sentence.isEmpty() ? "" : "; the document says: " + sentence));
         }
     }
 
@@ -57,10 +59,36 @@ final class Check {
         return planner;
     }
 
+    /** A planner with the clip that the text describes. */
+    static RatePlanner load(String text) {
+        RatePlanner planner = new RatePlanner();
+        write(planner, text);
+        holds("load() of '" + text + "'", planner.load() >= 0);
+        return planner;
+    }
+
     static void write(RatePlanner planner, String text) {
         planner.clear();
         for (int i = 0; i < text.length(); i++) {
             due("type at " + i, planner.type(text.charAt(i)), i + 1);
+        }
+    }
+
+    /** All quantizers are allowed then. */
+    static RatePlanner wide(RatePlanner planner) {
+        planner.setRange(0, 51);
+        return planner;
+    }
+
+    static RatePlanner buffered(RatePlanner planner, int size, int start, int rate) {
+        holds("setBuffer", planner.setBuffer(size, start) > 0);
+        holds("setRate", planner.setRate(rate) >= 0);
+        return planner;
+    }
+
+    static void adjust(RatePlanner planner, int... quantizers) {
+        for (int frame = 0; frame < quantizers.length; frame++) {
+            planner.adjust(frame, quantizers[frame]);
         }
     }
 

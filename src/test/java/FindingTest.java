@@ -144,6 +144,7 @@ public final class FindingTest {
     }
 
     private static void nothingChanges() {
+        Check.says("what would do; nothing changes");
         RatePlanner x = pair();
         x.drop();
         Check.due("leastSize() without a plan", x.leastSize(), STATE);

@@ -29,17 +29,6 @@ public final class MakingTest {
         return Check.clip(400, 100, 300, 50);
     }
 
-    private static RatePlanner wide(RatePlanner x) {
-        x.setRange(0, 51);
-        return x;
-    }
-
-    private static void adjust(RatePlanner x, int... quantizers) {
-        for (int frame = 0; frame < quantizers.length; frame++) {
-            x.adjust(frame, quantizers[frame]);
-        }
-    }
-
     private static void promise20Constant() {
         RatePlanner x = Check.frames(4, 400, 100);
         Check.due("constant(20)", x.constant(20), 0);
@@ -53,7 +42,7 @@ public final class MakingTest {
         Check.due("constant(-1)", x.constant(-1), BAD);
         Check.due("constant(52)", x.constant(52), BAD);
         Check.due("the plan stays", Check.quantizers(x), 45, 45, 45, 45);
-        wide(x).addZone(1, 3, 4);
+        Check.wide(x).addZone(1, 3, 4);
         x.constant(51);
         Check.due("of 51, wide", Check.quantizers(x), 48, 51, 51, 51);
         x.constant(2);
@@ -89,7 +78,7 @@ public final class MakingTest {
         x.setBuffer(101, 0);
         x.setRate(0);
         // 0 + (50 - 0) * 10 / 101 - 3, in the range from 0
-        wide(x).clearZones();
+        Check.wide(x).clearZones();
         Check.due("control(0, 10)", x.control(0, 10), 2);
         Check.due("of a small buffer", Check.quantizers(x), 1, 4);
         Check.due("control(-1, 0)", x.control(-1, 0), BAD);
@@ -105,7 +94,7 @@ public final class MakingTest {
         // in coding order 0, 3, 1, 2: 20 - 25000 * 20 / 50000 - 3 is 7, 14585 bits, content 35415;
         // then 20 - 19415 * 20 / 50000 is 13, 2767 bits, content 41648; then the buffer is full:
         // 20 - 25000 * 20 / 50000 + 2 is 12, 1540 bits, and full again
-        Check.due("control(20, 20)", wide(y).control(20, 20), 0);
+        Check.due("control(20, 20)", Check.wide(y).control(20, 20), 0);
         Check.due("in coding order", Check.quantizers(y), 7, 12, 12, 13);
         y.addZone(1, 1, -10);
         Check.due("control(20, 20) with a zone", y.control(20, 20), 0);
@@ -117,7 +106,7 @@ public final class MakingTest {
         // shares 640 and 320 of 9920 bits: targets 6653 and 3346
         Check.due("distribute(10000)", x.distribute(10000), 0);
         Check.due("in the first range", Check.quantizers(x), 14, 10);
-        wide(x).distribute(10000);
+        Check.wide(x).distribute(10000);
         Check.due("wide", Check.quantizers(x), 14, 8);
         x.addZone(1, 1, 7);
         x.distribute(10000);
@@ -125,7 +114,7 @@ public final class MakingTest {
         x.setBuffer(100, 0);
         Check.due("the first underflows", x.distribute(80), 1);
         Check.due("the greatest", Check.quantizers(x), 51, 51);
-        RatePlanner two = wide(Check.clip(400, 0, 10, 400));
+        RatePlanner two = Check.wide(Check.clip(400, 0, 10, 400));
         // works 1600 and 40; weights 4 and 8: shares 640 and 143 of 9700 bits, target 7968
         two.setWeight(1, 8);
         two.distribute(9780);
@@ -141,7 +130,7 @@ public final class MakingTest {
     }
 
     private static void promise22DistributeEdges() {
-        RatePlanner one = wide(Check.clip(400, 0));
+        RatePlanner one = Check.wide(Check.clip(400, 0));
         one.distribute(8040);
         Check.due("exactly the target", one.planned(0, 0), 12);
         one.distribute(8039);
@@ -160,12 +149,12 @@ public final class MakingTest {
         Check.due("distribute(10000000)", one.distribute(10000000), 0);
         Check.due("bits enough", one.planned(0, 0), 0);
         // shares 55 and 35, the roots rounded down: 393 * 55 / 90 is 240, and 2400 bits / step 10 are, too
-        RatePlanner small = wide(Check.clip(3, 0, 5, 0));
+        RatePlanner small = Check.wide(Check.clip(3, 0, 5, 0));
         small.distribute(473);
         Check.due("473 bits", small.planned(0, 0), 0);
         small.distribute(472);
         Check.due("472 bits", small.planned(0, 0), 1);
-        RatePlanner most = wide(Check.frames(60, 4000, 4000));
+        RatePlanner most = Check.wide(Check.frames(60, 4000, 4000));
         most.setInterval(1);
         most.setWeight(0, 8);
         // the product of 9997600 and the share 2862 needs a long; the target 166666 wants a step of 20
@@ -177,7 +166,7 @@ public final class MakingTest {
         Check.due("of no frames", new RatePlanner().distribute(10000000), STATE);
         Check.due("bad of no frames", new RatePlanner().distribute(10000001), BAD);
         // a bridge without work has the share 0 and takes 40 bits with any quantizer
-        RatePlanner idle = wide(Check.frames(3, 1, 0));
+        RatePlanner idle = Check.wide(Check.frames(3, 1, 0));
         idle.distribute(120);
         Check.due("a frame without work", idle.planned(1, 0), 0);
     }
@@ -186,19 +175,19 @@ public final class MakingTest {
         RatePlanner x = Check.frames(4, 400, 100);
         x.setBridges(0);
         x.constant(20);
-        adjust(x, 10, 20, 12, 40);
+        Check.adjust(x, 10, 20, 12, 40);
         Check.due("smooth(3)", x.smooth(3), 2);
         Check.due("of 10, 20, 12, 40", Check.quantizers(x), 10, 13, 12, 15);
-        adjust(x, 10, 20, 12, 40);
+        Check.adjust(x, 10, 20, 12, 40);
         Check.due("smooth(10)", x.smooth(10), 1);
         Check.due("of 10, 20, 12, 40", Check.quantizers(x), 10, 20, 12, 22);
-        adjust(x, 30, 20, 40, 5);
+        Check.adjust(x, 30, 20, 40, 5);
         Check.due("smooth(4)", x.smooth(4), 3);
         Check.due("of 30, 20, 40, 5", Check.quantizers(x), 30, 26, 30, 26);
         Check.due("smooth(4) again", x.smooth(4), 0);
         x.setBridges(2);
         x.constant(20);
-        adjust(x, 10, 20, 30, 40);
+        Check.adjust(x, 10, 20, 30, 40);
         Check.due("smooth(5) in coding order", x.smooth(5), 2);
         Check.due("of 10, 40, 20, 30", Check.quantizers(x), 10, 20, 25, 15);
     }
@@ -206,10 +195,10 @@ public final class MakingTest {
     private static void promise23SmoothEdges() {
         RatePlanner x = Check.clip(100, 0, 100, 0, 100, 200, 100, 0);
         x.constant(20);
-        adjust(x, 51, 0, 20, 21);
+        Check.adjust(x, 51, 0, 20, 21);
         Check.due("smooth(0)", x.smooth(0), 2);
         Check.due("scenes apart, whatever is allowed", Check.quantizers(x), 51, 51, 20, 20);
-        adjust(x, 51, 0, 20, 21);
+        Check.adjust(x, 51, 0, 20, 21);
         Check.due("smooth(51)", x.smooth(51), 0);
         Check.due("smooth(-1)", x.smooth(-1), BAD);
         Check.due("smooth(52)", x.smooth(52), BAD);
@@ -220,7 +209,7 @@ public final class MakingTest {
         RatePlanner y = Check.frames(3, 100, 0);
         y.setInterval(1);
         y.constant(20);
-        adjust(y, 10, 20, 30);
+        Check.adjust(y, 10, 20, 30);
         Check.due("groups of one scene", y.smooth(2), 2);
         Check.due("groups of one scene", Check.quantizers(y), 10, 12, 14);
     }
@@ -257,13 +246,13 @@ public final class MakingTest {
         x.setBuffer(1000, 100);
         x.setRate(1000);
         x.constant(20);
-        adjust(x, 34, 10);
+        Check.adjust(x, 34, 10);
         Check.due("repair() behind a full buffer", x.repair(), 9);
         Check.due("frame 1 alone", Check.quantizers(x), 34, 19);
         // never full behind place 0: both are asked, and the cheaper raise comes first
         x.setBuffer(7000, 100);
         x.setRate(0);
-        adjust(x, 13, 20);
+        Check.adjust(x, 13, 20);
         // 7312 + 809 bits; raising 13 (6193 bits then, 576 loss more) costs 514, raising 20 (57 bits less) more;
         // then 6193 + 809 is 2 bits too much: raising 14 (440 bits less, 324 loss more) costs 736
         Check.due("repair() of two", x.repair(), 2);
@@ -276,7 +265,7 @@ public final class MakingTest {
         y.constant(17);
         // 4 * 5040 bits are 160 more than 20000; a raise to 15 saves 596
         y.adjust(0, 16);
-        adjust(y, 16, 16, 16, 16);
+        Check.adjust(y, 16, 16, 16, 16);
         Check.due("bits", y.total(0), 4 * 5040);
         Check.due("repair() of equals", y.repair(), 1);
         Check.due("the least place", Check.quantizers(y), 17, 16, 16, 16);
@@ -284,11 +273,11 @@ public final class MakingTest {
 
     /** Works 1600, 150, 250 and 600 in the order 0, 3, 1, 2; with 20 they take 3116, 328, 520 and 1193 bits. */
     private static RatePlanner four() {
-        RatePlanner x = wide(Check.clip(400, 100, 200, 50, 300, 100, 400, 100));
+        RatePlanner x = Check.wide(Check.clip(400, 100, 200, 50, 300, 100, 400, 100));
         Check.due("order", Check.order(x), 0, 3, 1, 2);
         x.setRate(0);
         x.constant(20);
-        adjust(x, 20, 20, 20, 20);
+        Check.adjust(x, 20, 20, 20, 20);
         Check.due("bits", x.total(0), 3116 + 328 + 520 + 1193);
         return x;
     }
@@ -296,7 +285,7 @@ public final class MakingTest {
     private static void promise24RepairInCodingOrder() {
         RatePlanner x = four();
         x.setRange(0, 45);
-        adjust(x, 45, 20, 20, 20);
+        Check.adjust(x, 45, 20, 20, 20);
         // 2259 bits; to 21: frame 3 -82 bits, cost 10536; frame 1 -21, 20571; frame 2 -34, 12705
         x.setBuffer(2258, 100);
         Check.due("repair() of 2259 bits for 2258", x.repair(), 1);
@@ -306,23 +295,23 @@ public final class MakingTest {
         Check.due("repair() of 2177 bits for 2176", x.repair(), 1);
         Check.due("frame 2 behind it", Check.quantizers(x), 45, 20, 21, 21);
         // then frame 2 to 22: -56 bits, cost 17142
-        adjust(x, 45, 20, 20, 20);
+        Check.adjust(x, 45, 20, 20, 20);
         x.setBuffer(2142, 100);
         Check.due("repair() of 2259 bits for 2142", x.repair(), 3);
         Check.due("frames 3, 2 and 3", Check.quantizers(x), 45, 20, 21, 22);
-        adjust(x, 45, 20, 20, 20);
+        Check.adjust(x, 45, 20, 20, 20);
         x.setRange(0, 21);
         x.setBuffer(2122, 100);
         Check.due("repair() up to the greatest", x.repair(), 3);
         Check.due("all at the greatest", Check.quantizers(x), 45, 21, 21, 21);
-        adjust(x, 45, 20, 20, 20);
+        Check.adjust(x, 45, 20, 20, 20);
         x.setBuffer(2121, 100);
         Check.due("one bit is missing", x.repair(), STATE);
         Check.due("the plan stays", Check.quantizers(x), 45, 20, 20, 20);
     }
 
     private static void promise24RepairOfAll() {
-        RatePlanner x = wide(Check.frames(60, 4000, 0));
+        RatePlanner x = Check.wide(Check.frames(60, 4000, 0));
         x.setInterval(1);
         x.setRate(0);
         x.setBuffer(60 * 932, 100);
@@ -401,21 +390,21 @@ public final class MakingTest {
         // are too many then; and 178 bits are too many, too
         RatePlanner two = pair();
         two.constant(20);
-        adjust(two, 20, 20);
+        Check.adjust(two, 20, 20);
         Check.due("relax to 560 more", two.relax(3116 + 809 + 560), 4);
         Check.due("the greatest gain", Check.quantizers(two), 20, 16);
-        adjust(two, 20, 20);
+        Check.adjust(two, 20, 20);
         Check.due("relax to 902 more", two.relax(3116 + 809 + 140 + 91 + 111 + 560), 4);
         Check.due("the greatest gain", Check.quantizers(two), 19, 17);
-        adjust(two, 20, 20);
+        Check.adjust(two, 20, 20);
         Check.due("relax to 139 more", two.relax(3116 + 809 + 139), 0);
-        adjust(two, 20, 10);
+        Check.adjust(two, 20, 10);
         Check.due("frame 0 alone", two.relax(3116 + 2540 + 560), 1);
         Check.due("frame 0 alone", Check.quantizers(two), 19, 10);
         // equals: the least place first, in the coding order 0, 3, 1, 2
         RatePlanner equals = Check.clip(400, 0, 60, 70, 60, 70, 100, 0);
         equals.constant(20);
-        adjust(equals, 10, 20, 20, 10);
+        Check.adjust(equals, 10, 20, 20, 10);
         int bits = equals.planned(0, 1) + equals.planned(3, 1) + equals.bitsAt(1, 19) + equals.bitsAt(2, 20);
         Check.due("relax to one more", equals.relax(bits), 1);
         Check.due("the least place", Check.quantizers(equals), 10, 19, 20, 10);
@@ -428,20 +417,20 @@ public final class MakingTest {
         // frame 1 to 18 then +35, 9600, and to 17 +41, 7414; frame 2 to 18 +57, 5894
         Check.due("relax to 140 more", x.relax(5157 + 140), 3);
         Check.due("frame 1 thrice", Check.quantizers(x), 20, 17, 20, 20);
-        adjust(x, 20, 20, 20, 20);
+        Check.adjust(x, 20, 20, 20, 20);
         Check.due("relax to 175 more", x.relax(5157 + 175), 3);
         Check.due("frames 1, 1, 2", Check.quantizers(x), 20, 18, 19, 20);
-        adjust(x, 20, 20, 20, 20);
+        Check.adjust(x, 20, 20, 20, 20);
         Check.due("relax to 426 more", x.relax(5157 + 426), 5);
         Check.due("frames 1, 1, 2, 1, 3", Check.quantizers(x), 20, 17, 19, 19);
-        adjust(x, 20, 20, 20, 20);
+        Check.adjust(x, 20, 20, 20, 20);
         x.setBuffer(5157, 100);
         Check.due("no bit is left in the buffer", x.relax(10000000), 0);
         x.setBuffer(5157 + 52, 100);
         Check.due("52 bits are left in the buffer", x.relax(10000000), 1);
         Check.due("frame 1", Check.quantizers(x), 20, 19, 20, 20);
         // before the call one frame underflows, and no other one may: frame 2 comes last, and lacks a bit
-        adjust(x, 20, 20, 20, 20);
+        Check.adjust(x, 20, 20, 20, 20);
         x.setBuffer(5156, 100);
         Check.due("the last underflows already", x.relax(5157 + 52), 1);
         Check.due("so that frame 1 can take more", Check.quantizers(x), 20, 19, 20, 20);
@@ -449,7 +438,7 @@ public final class MakingTest {
 
     /** 59 frames whose bits don't increase from 51 to 38, and one that gains 2654208000 from 51 to 50. */
     private static void promise25GreatGain() {
-        RatePlanner x = wide(Check.frames(60, 1, 0));
+        RatePlanner x = Check.wide(Check.frames(60, 1, 0));
         Check.due("a cut", x.set(59, 13, 20), 1);
         x.setInterval(1);
         x.setWeight(1, 8);

@@ -128,6 +128,10 @@ public final class SlotsTest {
         Check.due("digest() with a text", x.digest(), hash(x, "400/10*5;30/60*4 "));
         x.load();
         Check.due("digest() without a plan", x.digest(), hash(x, ""));
+        promise38DigestOfAPlan(Check.load("400/10*5;30/60*4"));
+    }
+
+    private static void promise38DigestOfAPlan(RatePlanner x) {
         x.setBuffer(3000, 70);
         x.setRate(900);
         x.setWeight(1, 7);
