@@ -138,8 +138,9 @@ public final class SlotsTest {
         x.constant(20);
         Check.due("digest() with a plan", x.digest(), hash(x, ""));
         Check.write(x, "xyz");
-        Check.due("digest() with a plan and a text", x.digest(), hash(x, "xyz"));
-        Check.due("digest() again", x.digest(), hash(x, "xyz"));
+        long due = hash(x, "xyz");
+        Check.due("digest() with a plan and a text", x.digest(), due);
+        Check.due("digest() again", x.digest(), due);
     }
 
     private static long hash(RatePlanner x, String text) {
