@@ -144,6 +144,7 @@ public final class SlotsTest {
     }
 
     private static long hash(RatePlanner x, String text) {
+        boolean planned = x.count(3) == 1;
         long hash = 367;
         for (int what = 0; what <= 10; what++) {
             hash = 31 * hash + x.count(what);
@@ -152,7 +153,7 @@ public final class SlotsTest {
             for (int what = 0; what <= 7; what++) {
                 hash = 31 * hash + x.frame(frame, what);
             }
-            for (int what = 0; what <= 6 && x.count(3) == 1; what++) {
+            for (int what = 0; planned && what <= 6; what++) {
                 hash = 31 * hash + x.planned(frame, what);
             }
         }
@@ -161,7 +162,7 @@ public final class SlotsTest {
                 hash = 31 * hash + x.scene(scene, what);
             }
         }
-        for (int what = 0; what <= 6 && x.count(3) == 1; what++) {
+        for (int what = 0; planned && what <= 6; what++) {
             hash = 31 * hash + x.total(what);
         }
         for (int index = 0; index < text.length(); index++) {
