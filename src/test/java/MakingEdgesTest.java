@@ -111,6 +111,16 @@ public final class MakingEdgesTest {
         Check.due("control(20, 40)", x.control(20, 40), 0);
         Check.due("of control(20, 40)", Check.quantizers(x), 17, 33, 29, 33);
         Check.due("content before frame 2", x.planned(2, 3), 3103);
+        // 4484 of 10000 bits are taken out at 17; then 100 or 99 bits are lacking to half of the size, by 200 / 20000
+        RatePlanner exact = Check.wide(Check.frames(2, 400, 0));
+        exact.setInterval(1);
+        exact.setBuffer(20000, 50);
+        exact.setRate(4384);
+        exact.control(20, 200);
+        Check.due("9900 bits behind the first frame", Check.quantizers(exact), 17, 18);
+        exact.setRate(4385);
+        exact.control(20, 200);
+        Check.due("9901 bits behind the first frame", Check.quantizers(exact), 17, 17);
     }
 
     private static void controlAtTheEnds() {
@@ -203,6 +213,11 @@ public final class MakingEdgesTest {
         x.setRange(20, 20);
         x.distribute(10000000);
         Check.due("20 alone", x.planned(0, 0), 20);
+        x.clearZones();
+        x.addZone(0, 0, 10);
+        x.setRange(12, 40);
+        x.distribute(10000000);
+        Check.due("the least of the allowed range, and 10 then", x.planned(0, 0), 22);
     }
 
     private static void distributeErrors() {
