@@ -160,6 +160,10 @@ public final class AnswerEdgesTest {
         for (int what = 0; what <= 5; what++) {
             Check.due("of 60 scenes scene(59, " + what + ")", cuts.scene(59, what), last[what]);
         }
+        RatePlanner bridges = Check.frames(4, 400, 100);
+        bridges.constant(20);
+        Check.due("bits of intra, forward and bridge", bridges.scene(0, 3), 4484 + 1193 + 508 + 508);
+        Check.due("10 * (17 + 20 + 22 + 22) / 4", bridges.scene(0, 4), 202);
         RatePlanner mean = Check.frames(3, 400, 100);
         mean.constant(20);
         mean.adjust(0, 0);

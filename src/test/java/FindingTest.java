@@ -8,6 +8,7 @@ public final class FindingTest {
         promise32LeastRate();
         promise33BestConstant();
         promise34Demand();
+        ofSixtyFrames();
         nothingChanges();
         Check.end("FindingTest");
     }
@@ -141,6 +142,33 @@ public final class FindingTest {
         Check.due("without a plan", x.demand(0, 3), STATE);
         Check.due("bad without a plan", x.demand(0, 5), BAD);
         Check.due("of no frames", new RatePlanner().demand(0, 0), BAD);
+    }
+
+    /** What is found will do, and one less won't: of frames of all types, several of which are near to underflow. */
+    private static void ofSixtyFrames() {
+        RatePlanner x = Check.load("400/100*20;300/460;300/50*20;90/140;700/30*18");
+        x.setBuffer(40000, 35);
+        x.setRate(1170);
+        x.constant(20);
+        int size = x.leastSize();
+        int start = x.leastStart();
+        int rate = x.leastRate();
+        Check.holds("sizes, starts and rates within their bounds: " + size + ", " + start + ", " + rate,
+            size > 100 && size < 1000000 && start > 0 && start < 100 && rate > 0 && rate < 100000);
+        Check.due("underflows with the size " + size, underflows(x, size, 35, 1170), 0);
+        Check.holds("underflows with one less", underflows(x, size - 1, 35, 1170) > 0);
+        Check.due("underflows with the start " + start, underflows(x, 40000, start, 1170), 0);
+        Check.holds("underflows with one less", underflows(x, 40000, start - 1, 1170) > 0);
+        Check.due("underflows with the rate " + rate, underflows(x, 40000, 35, rate), 0);
+        Check.holds("underflows with one less", underflows(x, 40000, 35, rate - 1) > 0);
+        x.setBuffer(40000, 35);
+        int best = x.bestConstant();
+        Check.due("constant() of the best", x.constant(best), 0);
+        Check.holds("constant() of one less", x.constant(best - 1) > 0);
+    }
+
+    private static long underflows(RatePlanner x, int size, int start, int rate) {
+        return Check.buffered(x, size, start, rate).total(4);
     }
 
     private static void nothingChanges() {

@@ -162,6 +162,13 @@ public final class MakingEdgesTest {
         Check.due("a root rounded down", y.planned(1, 0), 0);
         y.distribute(539);
         Check.due("a root rounded down, a bit less", y.planned(1, 0), 1);
+        // works 16000 and 1600 at the weights 8 and 4: the roots 2862 and 640; frame 1: 16832 * 640 / 3502 is 3076
+        RatePlanner great = Check.wide(Check.clip(4000, 0, 400, 601));
+        great.setWeight(0, 8);
+        great.distribute(80 + 16832);
+        Check.due("the greatest root", great.planned(1, 0), 20);
+        great.distribute(80 + 16831);
+        Check.due("the greatest root, a bit less", great.planned(1, 0), 21);
         // works 4, 0, 0 and 1: the roots 32, 0, 0 and 16; frame 0: 120 * 32 / 48 is 80, as much as 800 / 10
         RatePlanner idle = Check.wide(Check.load("1/0*4"));
         idle.distribute(280);
@@ -179,6 +186,12 @@ public final class MakingEdgesTest {
             Check.holds("distribute", x.distribute(row[0]) >= 0);
             Check.due("of distribute(" + row[0] + ")", x.planned(0, 0), row[1]);
         }
+        RatePlanner equal = Check.wide(Check.frames(60, 400, 0));
+        equal.setInterval(1);
+        equal.distribute(60 * 8040);
+        Check.due("8040 bits for each of 60", equal.total(5), 60 * 12);
+        equal.distribute(60 * 8040 - 1);
+        Check.due("a bit less", equal.total(5), 60 * 13);
         RatePlanner most = Check.wide(Check.frames(60, 4000, 0));
         most.setInterval(1);
         most.setWeight(0, 8);

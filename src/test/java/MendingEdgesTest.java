@@ -26,6 +26,7 @@ public final class MendingEdgesTest {
         greatGains();
         gainsInCodingOrder();
         fiveHundredRounds();
+        fiveHundredRoundsBesideTheImpossible();
         relaxErrors();
         Check.end("MendingEdgesTest");
     }
@@ -154,6 +155,13 @@ public final class MendingEdgesTest {
         repaired(at(Check.buffered(intras(378, 260), 4765 + 3754 - 1, 100, 0), 16, 15), 1, 16, 16);
         repaired(at(Check.buffered(intras(400, 400, 400), 3 * 3116 - 1, 100, 0), 20, 20, 20), 1, 21, 20, 20);
         repaired(at(Check.buffered(intras(400, 400, 400), 3 * 3116 - 220, 100, 0), 20, 20, 20), 2, 21, 21, 20);
+        // the losses of two scenes, which are alike but for their weights
+        RatePlanner scenes = at(Check.buffered(Check.wide(Check.clip(400, 0, 400, 601)), 2 * 3116 - 1, 100, 0), 20, 20);
+        repaired(scenes, 1, 21, 20);
+        scenes.setWeight(0, 5);
+        repaired(at(scenes, 20, 20), 1, 20, 21);
+        scenes.setWeight(1, 6);
+        repaired(at(scenes, 20, 20), 1, 21, 20);
     }
 
     private static void greatCosts() {
@@ -339,6 +347,23 @@ public final class MendingEdgesTest {
         Check.due("the last one", x.relax(ALL), 1);
         at(x, 51, 51, 51, 51, 51, 51, 51, 51, 51, 50, 1);
         Check.due("499 steps", x.relax(ALL), 499);
+    }
+
+    private static void fiveHundredRoundsBesideTheImpossible() {
+        // 58 frames that take 40 bits from 51 to 38; two that gain most by the bit that is not there, and are refused
+        RatePlanner x = Check.buffered(Check.load("1/0*58;13/20*2"), 1000000, 100, 0);
+        x.setInterval(1);
+        x.setRange(0, 51);
+        x.setWeight(1, 8);
+        x.setWeight(2, 8);
+        at(x);
+        for (int frame = 0; frame < 60; frame++) {
+            x.adjust(frame, 51);
+        }
+        Check.due("relax to no more bits", x.relax((int) x.total(0)), 500);
+        Check.due("500 steps", x.total(5), 60 * 51 - 500);
+        Check.due("refused", x.planned(58, 0), 51);
+        Check.due("refused", x.planned(59, 0), 51);
     }
 
     private static void relaxErrors() {
