@@ -160,6 +160,11 @@ public final class AnswerEdgesTest {
         for (int what = 0; what <= 5; what++) {
             Check.due("of 60 scenes scene(59, " + what + ")", cuts.scene(59, what), last[what]);
         }
+        RatePlanner single = single(400, 20);
+        long[] one = {0, 1, 4, 3116, 200, 1};
+        for (int what = 0; what <= 5; what++) {
+            Check.due("of one frame scene(0, " + what + ")", single.scene(0, what), one[what]);
+        }
         RatePlanner bridges = Check.frames(4, 400, 100);
         bridges.constant(20);
         Check.due("bits of intra, forward and bridge", bridges.scene(0, 3), 4484 + 1193 + 508 + 508);

@@ -239,6 +239,8 @@ public final class ClipTest {
         x.setBridges(3);
         Check.due("types", Check.property(x, 2), 0, 2, 2, 1, 0, 2, 2, 1, 0, 1);
         Check.due("scenes", Check.property(x, 3), 0, 0, 0, 0, 0, 0, 0, 0, 0, 0);
+        Check.due("places", Check.property(x, 4), 0, 2, 3, 1, 4, 6, 7, 5, 8, 9);
+        Check.due("works", Check.property(x, 5), 400, 50, 50, 100, 400, 50, 50, 100, 400, 100);
         Check.due("first of groups", Check.property(x, 6), 0, 0, 0, 0, 4, 4, 4, 4, 8, 8);
         Check.due("length of groups", Check.property(x, 7), 4, 4, 4, 4, 4, 4, 4, 4, 2, 2);
         x.set(6, 100, 151);
